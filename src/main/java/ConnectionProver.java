@@ -65,7 +65,7 @@ public final class ConnectionProver {
     private static final int EVERYWHERE = -1;
 
     // Literals in order of adding: those of clause c begin at clauseStart[c], and the pending
-    // ones at clauseStart[clauseCount].
+    // ones at clauseStart[clauseCount]; clauseStart[0] stays 0.
     private final int[] litSign = new int[MAX_LITS];
     private final int[] litPred = new int[MAX_LITS];
     private final int[] litArg0 = new int[MAX_LITS];
@@ -95,6 +95,7 @@ public final class ConnectionProver {
 
     // The goals of the check or the proof under way. All goals of copy i have the same path: the
     // path of the goal that step i extended, then that goal itself, which is remembered here.
+    // Those of copy 0 have the empty path, so pathLength[0] stays 0.
     private final int[] openCopy = new int[MAX_OPEN];
     private final int[] openLit = new int[MAX_OPEN];
     private final int[] parentCopy = new int[MAX_STEPS];
@@ -109,11 +110,11 @@ public final class ConnectionProver {
     private final int[] literalHolds = new int[GROUND_LITS];
     private int universeSize;
 
-    // Instances and ground literals that do not hold together, see keepOnlyNeeded.
+    // The sets of writeProof: for the goals of each copy, and for the goal in hand.
     private final int[] restInstances = new int[MAX_STEPS];
-    private final int[] restLiterals = new int[MAX_STEPS];
+    private final int[] pathLiterals = new int[MAX_STEPS];
     private int neededInstances;
-    private int neededLiterals;
+    private int givenLiterals;
 
     public ConnectionProver() {
         lastCheckStep = NONE;
@@ -203,8 +204,8 @@ public final class ConnectionProver {
             return ERR_TOO_BIG;
         }
         neededInstances = makeInstances();
-        neededLiterals = 0;
-        proofKept = whereHolds(neededInstances, neededLiterals) == 0;
+        givenLiterals = 0;
+        proofKept = whereHold(neededInstances) == 0;
         if (!proofKept) {
             return NOT_PROVED;
         }
@@ -303,7 +304,6 @@ public final class ConnectionProver {
 
     private void removeClauses() {
         clauseCount = 0;
-        clauseStart[0] = 0;
         litCount = 0;
         for (int pred = 0; pred < PREDICATES; pred++) {
             predArity[pred] = NONE;
@@ -432,7 +432,8 @@ public final class ConnectionProver {
         return argument;
     }
 
-    private int whereHolds(int instances, int literals) {
+    // The interpretations in which these instances and the given literals hold.
+    private int whereHold(int instances) {
         int holds = EVERYWHERE;
         for (int k = 0; k < INSTANCES; k++) {
             if (((instances >> k) & 1) != 0) {
@@ -440,7 +441,7 @@ public final class ConnectionProver {
             }
         }
         for (int k = 0; k < GROUND_LITS; k++) {
-            if (((literals >> k) & 1) != 0) {
+            if (((givenLiterals >> k) & 1) != 0) {
                 holds &= literalHolds[k];
             }
         }
@@ -462,7 +463,6 @@ public final class ConnectionProver {
 
     private void openRoot(int first, int length) {
         openCount = 0;
-        pathLength[0] = 0;
         openGoals(0, first, length, NONE);
     }
 
@@ -474,15 +474,16 @@ public final class ConnectionProver {
 
     // ---- proof search ----
 
-    // Each goal is closed without ever going back. A set that no interpretation makes hold, and
-    // of which every member is needed for that, is found for the whole clauses; its first
-    // instance is the root. When an instance is taken out of such a set, the rest holds
-    // somewhere, and the rest with any one literal of that instance holds nowhere. So the rest
-    // is remembered with the copy, and for each goal of the copy the rest and the goal, thinned
-    // to what is needed, are such a set again, and the goal is always needed in it. Where a
-    // literal L is needed, an instance with its complement is, too, which is the next extension;
-    // and no other member has the literal L, so that no path has a literal twice. Paths thus
-    // have five literals at most, and the proof has 1+3+6+12+24+48+96 = 190 steps at most.
+    // The proof is written without ever going back on a step. At each goal the needed instances
+    // hold nowhere together with the given literals, which are the path and the goal, and none of
+    // them can be left out of that. Take one out to extend by it: then the rest and the given
+    // literals hold somewhere, but with any literal K of the one taken out they hold nowhere. So
+    // they are remembered with the copy, and for its goal K the rest is thinned again to what is
+    // needed. Two things follow. Where all hold but K, turning K true must break something, so
+    // the complement of K is on the path or in a needed instance: there is always a next step.
+    // And an instance with a given literal holds wherever that literal does, so it is never
+    // needed: no path has a literal twice. A path with its goal thus has five literals at most
+    // when it is extended, and 1+3+6+12+24+48+96 = 190 steps suffice.
     private void writeProof() {
         keepOnlyNeeded();
         int root = lowestInstance();
@@ -505,7 +506,7 @@ public final class ConnectionProver {
     private void extendGoal(int step, int copy, int lit) {
         int literal = instanceLits[lit];
         neededInstances = restInstances[copy];
-        neededLiterals = restLiterals[copy] | (1 << literal);
+        givenLiterals = pathLiterals[copy] | (1 << literal);
         keepOnlyNeeded();
         int partner = findNeeded(literal ^ 1);
         int instance = partner / MAX_CLAUSE_LITS;
@@ -516,18 +517,11 @@ public final class ConnectionProver {
         openGoals(step, first, length, partner);
     }
 
-    // Takes members out of the needed sets as long as what stays holds nowhere.
     private void keepOnlyNeeded() {
         for (int k = 0; k < INSTANCES; k++) {
             int fewer = neededInstances & ~(1 << k);
-            if (whereHolds(fewer, neededLiterals) == 0) {
+            if (whereHold(fewer) == 0) {
                 neededInstances = fewer;
-            }
-        }
-        for (int k = 0; k < GROUND_LITS; k++) {
-            int fewer = neededLiterals & ~(1 << k);
-            if (whereHolds(neededInstances, fewer) == 0) {
-                neededLiterals = fewer;
             }
         }
     }
@@ -572,7 +566,7 @@ public final class ConnectionProver {
         keptB[step] = lit;
         keptInstance[step] = instance;
         restInstances[step] = neededInstances & ~(1 << instance);
-        restLiterals[step] = neededLiterals;
+        pathLiterals[step] = givenLiterals;
     }
 
     private void keepReduction(int step, int entry) {

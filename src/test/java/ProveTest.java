@@ -10,6 +10,8 @@ public final class ProveTest {
         emptyClauses();
         variables();
         repeatedLiterals();
+        longProofs();
+        narrowChoices();
         tooBig();
         pendingIsIgnored();
         proofIsKeptAndReplaced();
@@ -98,6 +100,32 @@ public final class ProveTest {
         due("p(X0) | p(c0) | p(X1); -p(X0) | -p(c1)", NOT_PROVED);
         due("p(c0) | p(c1); -p(c0) | -p(c1)", NOT_PROVED);
         due("p(X0,X1) | p(X1,X0); -p(X0,X0) | -p(X1,X1); q; p(c0,c1)", PROVED);
+    }
+
+    /** Of many millions of drawn sets, those whose proofs came out longest. */
+    private static void longProofs() {
+        due("-q | -q | p(X0,X0); -q | q; p(X0,X1) | p(X1,X0) | p(X1,X0); p(X0,X0) | q;"
+                + "q | -p(c1,X0); -p(c0,X0) | -p(c1,X0) | -p(X1,X0)", PROVED);
+        due("-p(X0,X1) | p(c1,X1); p(X0,c1); p(X1,X0) | p(X1,X1);"
+                + "-p(X0,X1) | -p(X0,X1) | -p(X1,X0); p(X1,X0) | p(X1,c0) | p(X1,c1)", PROVED);
+        due("p(X1,c0) | p(X0,X0) | p(X0,X1); -p(X1,c0) | -q | -q; -p(X1,X0) | -q;"
+                + "q | p(X1,X0) | -p(X0,X1); -p(X0,X0) | -p(X0,c1) | -p(X1,X0)", PROVED);
+        due("r | r; r | p; q | -r | -r; p | -q | -r; s | -r | s; -p | -p | -s", PROVED);
+    }
+
+    /** Sets in which a partner that is not needed below the path leaves a goal without a partner. */
+    private static void narrowChoices() {
+        due("p(X0,c1) | p(X1,X0); -p(c0,X0) | -p(c1,c0); -p(X1,c1) | -p(X1,X0) | p(X0,c1);"
+                + "p(X0,X1) | -p(X1,X1) | -p(c0,X0); -p(X0,X0) | p(c1,X1) | p(c0,X1)", PROVED);
+        due("q | -s; -q | -r; s; p(c0) | p(c1); -p(X1) | r; q | s | -p(X0); s | -s | -s", PROVED);
+        due("-r | q(X0) | q(c1); -r | -r; p(c0) | p(c0) | p(X0); q(c1) | -p(X1) | r; -q(X1);"
+                + "r | -q(c1) | -p(X1)", PROVED);
+        due("p(c1) | p(c1) | p(c1); q(c0) | -q(c0); -p(c0) | -q(X1); q(c1) | p(c1); q(c0) | q(c1);"
+                + "-q(X0) | -p(c1) | p(X1)", PROVED);
+        due("-p(X0) | -p(c0); p(X0) | -q(c0) | -q(c1); -q(X1) | p(X1); p(X1) | q(c0); p(c1) | -q(X0);"
+                + "-q(X1) | p(X0) | -q(X1); q(X0) | -q(X1)", PROVED);
+        due("p(X1,X0) | -p(c0,X1); p(X0,X0) | p(X1,c0) | p(c0,X1); p(X0,X1) | -p(c0,c0);"
+                + "-p(X0,c1) | -p(c1,c0); p(X0,X0) | -p(X1,X1) | -p(c0,c1)", PROVED);
     }
 
     private static void tooBig() {
