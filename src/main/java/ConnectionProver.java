@@ -133,10 +133,10 @@ public final class ConnectionProver {
         if (arg0 == T_NONE && arg1 != T_NONE) {
             return ERR_ARG;
         }
-        if (clauseCount >= MAX_CLAUSES || litCount >= MAX_LITS) {
+        if (clauseCount >= MAX_CLAUSES) {
             return ERR_FULL;
         }
-        if (litCount - clauseStart[clauseCount] >= MAX_CLAUSE_LITS) {
+        if (litCount - clauseStart[clauseCount] >= MAX_CLAUSE_LITS || litCount >= MAX_LITS) {
             return ERR_FULL;
         }
         int arity = arityOf(arg0, arg1);

@@ -4,13 +4,31 @@ final class Due {
 
     private int wrong = 0;
     private int asked = 0;
+    private String sentence = "";
+    private int askedBefore = 0;
+    private int sentences = 0;
+
+    /** The answers from here on are due by this sentence of the document. */
+    void sentence(String text) {
+        endSentence();
+        sentence = "[" + text + "] ";
+        sentences++;
+        askedBefore = asked;
+    }
+
+    private void endSentence() {
+        if (sentences > 0 && asked == askedBefore) {
+            wrong++;
+            System.out.println(sentence + "has no test");
+        }
+    }
 
     void due(String call, long got, long want) {
         asked++;
         if (got != want) {
             wrong++;
             if (wrong <= MOST_SHOWN) {
-                System.out.println(call + " answered " + got + ", due is " + want);
+                System.out.println(sentence + call + " answered " + got + ", due is " + want);
             }
         }
     }
@@ -20,7 +38,9 @@ final class Due {
     }
 
     void finish() {
-        System.out.println(asked + " answers, " + wrong + " of them wrong");
+        endSentence();
+        String about = sentences == 0 ? "" : sentences + " sentences, ";
+        System.out.println(about + asked + " answers, " + wrong + " of them wrong");
         if (wrong != 0 || asked == 0) {
             System.exit(1);
         }
