@@ -47,8 +47,8 @@ public final class ConnectionProver {
     private static final int TERMS = 514;
     private static final int MAX_MOVES = 512;
 
-    // The first step opens three goals at most, and each later one adds one at most.
-    private static final int MAX_OPEN = 259;
+    // The first step opens three goals at most, and each of 255 later ones adds one at most.
+    private static final int MAX_OPEN = 258;
 
     // Instance 4 * c + 2 * x + y is clause c with X0 read as constant x and X1 as constant y;
     // a set of instances is then the bits of one int.

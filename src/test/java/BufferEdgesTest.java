@@ -28,6 +28,7 @@ public final class BufferEdgesTest {
         clearLeavesTheRest();
         isSealed();
         sealedIsValid();
+        sealedUntil();
         stepSealed();
         stepKind();
         stepsFull();
@@ -222,6 +223,30 @@ public final class BufferEdgesTest {
                 }
             }
             DUE.due(state + ": sealed at the end", x.isSealed(), state == State.ALL_SEALED);
+        }
+    }
+
+    private static void sealedUntil() {
+        DUE.sentence("What it is: addStep and bind are refused until clearProof, an accepted endClause or "
+                + "clearClauses empties and unseals the buffer");
+        for (State state : SEALS) {
+            for (int call = 0; call < 8; call++) {
+                ConnectionProver x = state.make();
+                boolean opened = call < 2;
+                switch (call) {
+                    case 0 -> x.clearProof();
+                    case 1 -> x.clearClauses();
+                    case 2 -> opened = x.endClause() >= 0;
+                    case 3 -> x.addLiteral(0, 1, -1, -1);
+                    case 4 -> x.prove();
+                    case 5 -> x.check();
+                    case 6 -> x.adoptProof();
+                    default -> x.addStep(0, 0, 0);
+                }
+                DUE.due(state + ": isSealed after call " + call, x.isSealed(), !opened);
+                DUE.due(state + ": addStep after call " + call, x.addStep(0, 0, 0), opened ? 0 : SEALED);
+                DUE.due(state + ": bind after call " + call, x.bind(0, 2, 0, 0), opened ? OK : SEALED);
+            }
         }
     }
 

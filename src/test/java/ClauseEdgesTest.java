@@ -445,6 +445,9 @@ public final class ClauseEdgesTest {
         atoms("p(X0,X1); q(X1)", 2);
         atoms("p(c0,X0); q(c0)", 2);
         atoms("p(X1,c1); q(X0)", 2);
+        atoms("p(c1); q", 2);
+        atoms("q | p(c1,X0); r(X1)", 3);
+        atoms("p(c0,X0); q", 2);
         atoms("p(c0,X0); q(c1)", 6);
         atoms("p(X0,c1); q(c0)", 6);
         atoms("p(c1,c0)", 4);

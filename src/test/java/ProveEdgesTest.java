@@ -74,6 +74,11 @@ public final class ProveEdgesTest {
         due("p(X0) | q(X1); -p(c0); -q(c1)", PROVED);
         due("p(X0) | q(X0); -p(c0); -q(c1)", NOT_PROVED);
         due("p(X0) | q(X1); -p(c0) | -q(c1)", NOT_PROVED);
+        // The last literal of the last clause, in its last instance, and the first of the first.
+        String filler = "; p(c0,c1); p(c0,c0); p(c1,c0) | q; q | -q; p(c0,c0); ";
+        due("-p(c1,c1)" + filler + "-q; q | q | p(X0,X1)", PROVED);
+        due("-p(c1,c1)" + filler + "-q; q | q | p(X0,c0)", NOT_PROVED);
+        due("p(X0,X1) | q | q; -q" + filler + "-p(c0,c0)", PROVED);
     }
 
     private static void emptyClause() {
