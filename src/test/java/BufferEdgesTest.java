@@ -309,7 +309,7 @@ public final class BufferEdgesTest {
             }
             x.clearProof();
         }
-        DUE.due("after three steps", State.WRITTEN.make().addStep(0, 0, 0), 3);
+        DUE.due("after four steps", State.WRITTEN.make().addStep(0, 0, 0), 4);
     }
 
     /** Each number here would be a good one if some of its bits were lost. */
@@ -356,6 +356,16 @@ public final class BufferEdgesTest {
             }
         }
         Seen.same(DUE, State.FRESH, "addStep", x -> x.addStep(0, 0, 0), rest);
+        ConnectionProver x = asking(1);
+        bindAll(x, 1);
+        for (int i = 2; i < 256; i++) {
+            x.addStep(1, 0, 0);
+        }
+        for (int k = 1; k < 512; k++) {
+            x.bind(0, 2, k / 2, 2 + k % 2);
+            x.check();
+            DUE.due("variable " + k + " is bound to c1 after 256 steps", x.getCheckStep(), 2);
+        }
     }
 
     // ---- 15 ----

@@ -17,8 +17,8 @@ final class Seen {
     static final Set<Part> BUFFER = EnumSet.of(Part.STEPS, Part.BINDINGS, Part.SEAL);
 
     /** The clauses under which the steps of a buffer are looked at; they need no bindings. */
-    private static final String[] SETS = {"-p | q; p; -q | q; -q", "-p | q; p; -q; -q | q",
-            "-p; p | p", "-p; p | -p; p; p", "p; -p", "p", ""};
+    private static final String[] SETS = {"-p | q; p; q | -q; -q", "-p | q; p; -q; q | -q",
+            "-p | q; p; -q | -q; -q", "-p; p | p", "p; -p", "p", ""};
 
     private Seen() {
     }

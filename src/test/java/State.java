@@ -7,7 +7,7 @@ enum State {
     SEALED,
     /** No proof is kept, and the buffer holds an open one. */
     UNPROVED,
-    /** Six ground atoms, and a valid proof in the buffer. */
+    /** Six ground atoms, two pending literals, and a valid proof in the buffer. */
     TOO_BIG,
     /** 256 steps that are a valid proof; a proof is kept too. */
     ALL_STEPS,
@@ -22,7 +22,7 @@ enum State {
     /** As ALL_WRITTEN, but with the kept proof adopted. */
     ALL_SEALED;
 
-    static final String BASE = "-p(X0) | q; p(c0); -q | q; -q";
+    static final String BASE = "-p(X0) | q; p(c0); q | -q; -q";
 
     /** Another object in this state with every call. */
     ConnectionProver make() {
@@ -43,6 +43,7 @@ enum State {
             }
             case TOO_BIG -> {
                 Entry.add(x, "-p(X0,X1); p(c0,c1); q; r");
+                Entry.pend(x, "s(c0) | -r");
                 start(x);
                 x.check();
                 x.bind(0, 2, 0, 0);
@@ -101,6 +102,7 @@ enum State {
     private static void written(ConnectionProver x) {
         start(x);
         x.check();
+        x.addStep(1, 2, 1);
         x.addStep(1, 3, 0);
         x.bind(0, 2, 7, 3);
         x.bind(7, 3, 0, 0);
@@ -114,7 +116,7 @@ enum State {
         x.bind(0, 2, 255, 3);
         x.bind(255, 3, 0, 0);
         for (int i = 2; i < 255; i++) {
-            x.addStep(1, 2, 0);
+            x.addStep(1, 2, 1);
         }
         x.check();
         x.addStep(1, 3, 0);
