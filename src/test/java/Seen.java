@@ -7,8 +7,9 @@ import java.util.function.Supplier;
 import java.util.function.ToIntFunction;
 
 /**
- * Tells what a call changed by everything that the public face shows of an object. A look may use
- * its object up, so each takes another one in the same state.
+ * Tells what a call changed by what the public face shows of an object, part by part; of a binding
+ * that is whether it leads to c0, to c1, to no constant or into a cycle. A look may use its object
+ * up, so each takes another one in the same state.
  */
 final class Seen {
     enum Part { FINISHED, PENDING, ARITIES, KEPT, STEPS, BINDINGS, SEAL, CHECK_STEP }
